@@ -227,10 +227,10 @@ public final class DisambiguationBench {
         if (rank < 0) {
             return INVALID_ARGUMENT;
         }
+        // selectTree(0, ..) leaves a forest that no filter has touched: the filters are applied to it one by one.
         if (!selectTree(0, rank)) {
             return NOT_FOUND;
         }
-        forest.reset(setup.operators());
         for (int position = 0; position < state.pipelineLength; position++) {
             forest.apply(setup, state.filters[position]);
             if (!tree.survives(forest)) {
@@ -274,7 +274,7 @@ public final class DisambiguationBench {
         return distinct;
     }
 
-    /** Returns the number of noted results after noting one more, if it is new. */
+    /** Returns how many results are noted then; a result that is there already is not noted again. */
     private int noteResult(int noted, long result) {
         for (int i = 0; i < noted; i++) {
             if (results[i] == result) {
@@ -317,7 +317,7 @@ public final class DisambiguationBench {
         return position == state.pipelineLength - 1;
     }
 
-    /** Makes the forest the one that the first filters leave, and returns its number of trees. */
+    /** The forest is grown anew for each call: one forest is enough then, and no edit has to keep it up to date. */
     private int growForest(int filters) {
         forest.reset(setup.operators());
         for (int position = 0; position < filters; position++) {
@@ -326,7 +326,6 @@ public final class DisambiguationBench {
         return forest.countTrees();
     }
 
-    /** Makes the tree the one with a rank among those that the first filters leave, if there is one. */
     private boolean selectTree(int filters, int rank) {
         if (rank >= growForest(filters)) {
             return false;
@@ -339,7 +338,6 @@ public final class DisambiguationBench {
         return low * OPERAND_LIMIT + high;
     }
 
-    /** The character buffer with the setup text, and its parser. */
     private static final class SetupText {
         private final char[] characters = new char[TEXT_LIMIT];
         private int length = 0;
@@ -476,7 +474,6 @@ public final class DisambiguationBench {
             return true;
         }
 
-        /** The set of the operators with a symbol. */
         int operatorsWith(int symbol) {
             int set = 0;
             for (int operator = 0; operator < operators(); operator++) {
@@ -493,12 +490,9 @@ public final class DisambiguationBench {
         private static final int FIELD_BITS = 4;
         private static final int FIELD_MASK = 15;
 
-        private FilterCode() {
-        }
-
         static int of(int kind, int symbol, int childSymbol, boolean rightSide) {
             int side = rightSide ? 1 : 0;
-            return kind | symbol << FIELD_BITS | childSymbol << 2 * FIELD_BITS | side << 3 * FIELD_BITS;
+            return kind | (symbol << FIELD_BITS) | (childSymbol << (2 * FIELD_BITS)) | (side << (3 * FIELD_BITS));
         }
 
         static int kind(int filter) {
@@ -507,18 +501,17 @@ public final class DisambiguationBench {
 
         /** The symbol of a PREFER or AVOID filter, the parent's symbol of a REJECT filter. */
         static int symbol(int filter) {
-            return filter >> FIELD_BITS & FIELD_MASK;
+            return (filter >> FIELD_BITS) & FIELD_MASK;
         }
 
         static int childSymbol(int filter) {
-            return filter >> 2 * FIELD_BITS & FIELD_MASK;
+            return (filter >> (2 * FIELD_BITS)) & FIELD_MASK;
         }
 
         static boolean isRightSide(int filter) {
-            return (filter >> 3 * FIELD_BITS & FIELD_MASK) == 1;
+            return ((filter >> (3 * FIELD_BITS)) & FIELD_MASK) == 1;
         }
 
-        /** Tells whether a filter forbids an operator as the child of another on one side. */
         static boolean forbids(int filter, Setup setup, int parent, int child, boolean onRight) {
             int parentSymbol = setup.symbols[parent];
             int childSymbol = setup.symbols[child];
@@ -730,7 +723,7 @@ public final class DisambiguationBench {
         }
 
         static boolean isIn(int operator, int set) {
-            return (set >> operator & 1) == 1;
+            return ((set >> operator) & 1) == 1;
         }
     }
 
@@ -767,7 +760,7 @@ public final class DisambiguationBench {
             ranks[span] = rank;
         }
 
-        /** Finds the root of a subtree by its rank, and puts the two subtrees below it. */
+        /** Roots come first in the order, then left subtrees, then right ones: so the rank splits by division. */
         private void splitSubtree(Forest forest, int low, int high) {
             int span = spanIndex(low, high);
             int allowed = allowedRoots[span];
@@ -785,7 +778,7 @@ public final class DisambiguationBench {
             }
         }
 
-        /** The operator at a place of the preorder, NOT_FOUND behind its end. */
+        /** A subtree has as many operators as its span is long, so that whole subtrees are stepped over. */
         int operatorInPreorder(int preorder) {
             int low = 0;
             int high = operators;
@@ -828,7 +821,7 @@ public final class DisambiguationBench {
             return low >= high || Forest.isIn(roots[spanIndex(low, high)], allowed);
         }
 
-        /** The rank of the tree in a forest that has it. */
+        /** Only a forest that the tree survives in has a rank for it. */
         int rankIn(Forest forest) {
             for (int length = 1; length <= operators; length++) {
                 for (int low = 0; low + length <= operators; low++) {
@@ -840,7 +833,7 @@ public final class DisambiguationBench {
             return rankOf(forest, 0, operators, EVERY_OPERATOR);
         }
 
-        /** Notes the rank of a subtree among those of its span with the same root. */
+        /** The rank among the trees with the same root comes first: which roots count is up to the operator above. */
         private void rankBelowRoot(Forest forest, int low, int high) {
             int span = spanIndex(low, high);
             int root = roots[span];
@@ -862,7 +855,6 @@ public final class DisambiguationBench {
             return rank;
         }
 
-        /** The result of the whole tree. */
         long evaluate(Setup setup, int[] variables) {
             for (int operand = 0; operand <= operators; operand++) {
                 results[spanIndex(operand, operand)] = variables[setup.letters[operand]];

@@ -124,7 +124,7 @@ public final class SetupTest {
         String[] texts = {
             "op", "o", "p", "op+", "op+4", "op+4l", "op+4l ", "op;", "op+;", "op+4;", "op+l;", "op4l;", "op+4ll;",
             "op+44l;", "op++4l;", "op+4x;", "op+4L;", "op+/l;", "op+:l;", "op!4l;", "op>4l;", "opa4l;", "Op+4l;", "oP+4l;",
-            " op+4l;", "op +4l;", "op+4l ;", "op+4lop-4l;", ";", "x;", "ox+4l;", "xp+4l;", "op;4l;",
+            " op+4l;", "op +4l;", "op+4l ;", "op+4lop-4l;", ";", "x;", "xy;", "xyz;", "opx;", "ox+4l;", "xp+4l;", "op;4l;",
         };
         for (String text : texts) {
             syntax(text, 0);
@@ -133,7 +133,7 @@ public final class SetupTest {
 
     private static void malformedExpressions() {
         String[] texts = {
-            "e", "expr", "expr;", "expra", "exprab;", "expra+b;", "expra+;", "expr+a;", "expr+;", "exprA;", "expr1;",
+            "e", "expr", "e;", "ex;", "exp;", "expr;", "expra", "exprab;", "expra+b;", "expra+;", "expr+a;", "expr+;", "exprA;", "expr1;",
             "expr`;", "expr{;", "expr a;", "expra ;", "exprr", "Expra;", "exqra;", "expa;", "xpra;", "expsa;", "expra;;a"
         };
         for (String text : texts) {

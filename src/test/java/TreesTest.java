@@ -1,7 +1,7 @@
 /** Promises 21 to 25: single trees, their ranks and their values. */
 public final class TreesTest {
     private static final Due DUE = new Due("TreesTest");
-    private static final int PLUS = 0, TIMES = 2;
+    private static final int PLUS = 0, MINUS = 1, TIMES = 2;
     private static final long OVERFLOW = 1L << 40, DIVISION_BY_ZERO = 1L << 41, NO_VALUE = 1L << 42;
     private static final int LEAST = Integer.MIN_VALUE, MOST = Integer.MAX_VALUE;
     private static final int BILLION = 1000000000;
@@ -146,12 +146,16 @@ public final class TreesTest {
             DUE.is("prefer *: survivorRank(1, " + rank + ")", bench.survivorRank(1, rank),
                     rank == 5 ? 0 : rank == 6 ? 1 : -4);
         }
-        survivorsKeepTheirOrder();
+        survivorsKeepTheirOrder("a*b-c+d*e-f", TIMES, MINUS, true);
+        survivorsKeepTheirOrder("a*b*c+d*e*f", TIMES, PLUS, true);
+        survivorsKeepTheirOrder("a*b*c+d*e-f", PLUS, MINUS, true);
+        survivorsKeepTheirOrder("a-b*c+d*e-f", PLUS, MINUS, false);
+        survivorsKeepTheirOrder("a-b*c+d*e-f", PLUS, TIMES, false);
     }
 
-    private static void survivorsKeepTheirOrder() {
-        DisambiguationBench bench = Due.loaded("op+1l;op-1r;op*2n;expra*b-c+d*e-f;");
-        bench.addRejectFilter(0, TIMES, 1, true);
+    private static void survivorsKeepTheirOrder(String expression, int parent, int child, boolean rightSide) {
+        DisambiguationBench bench = Due.loaded("op+1l;op-1r;op*2n;expr" + expression + ";");
+        bench.addRejectFilter(0, parent, child, rightSide);
         int survivors = 0;
         for (int rank = 0; rank < 42; rank++) {
             boolean survives = bench.discardedBy(rank) == 1;
