@@ -1,7 +1,10 @@
+import java.util.HashSet;
+import java.util.Set;
+
 /** Promises 21 to 25: single trees, their ranks and their values. */
 public final class TreesTest {
     private static final Due DUE = new Due("TreesTest");
-    private static final int PLUS = 0, MINUS = 1, TIMES = 2;
+    private static final int PLUS = 0, MINUS = 1, TIMES = 2, OR = 6;
     private static final long OVERFLOW = 1L << 40, DIVISION_BY_ZERO = 1L << 41, NO_VALUE = 1L << 42;
     private static final int LEAST = Integer.MIN_VALUE, MOST = Integer.MAX_VALUE;
     private static final int BILLION = 1000000000;
@@ -10,6 +13,10 @@ public final class TreesTest {
 
     /** Just 300 trees are left by a REJECT of * under + on the left. */
     private static final String THREE_HUNDRED = "op+1l;op-1r;op*2n;expra*b-c*d-e+f-g+h;";
+
+    /** Just 300 trees are left by two REJECTs, with as many different values. */
+    private static final String ALL_DIFFERENT = "op*1l;op|1l;op-1l;expra*b*c|d*e|f*g*h-i;";
+    private static final int[] ALL_DIFFERENT_LETTERS = {40, 19, 34, 10, 8, 22, 6, 37, 27};
 
     /** Just 301 trees are left by an ASSOCIATIVITY filter. */
     private static final String ONE_MORE = "op+1l;op-1r;op*2n;expra*b+c+d*e*f-g+h+i+j;";
@@ -30,6 +37,7 @@ public final class TreesTest {
         valueRange();
         distinctValues();
         distinctValuesLimit();
+        mostDistinctValues();
         DUE.finish();
     }
 
@@ -373,5 +381,22 @@ public final class TreesTest {
         bench.addAssociativityFilter(0);
         DUE.is("treeCount(1)", bench.treeCount(1), 301);
         DUE.is("distinctValues(1) of 301 trees", bench.distinctValues(1), -3);
+    }
+
+    private static void mostDistinctValues() {
+        DisambiguationBench bench = Due.loaded(ALL_DIFFERENT);
+        bench.addRejectFilter(0, TIMES, TIMES, true);
+        bench.addRejectFilter(1, OR, OR, true);
+        for (int letter = 0; letter < ALL_DIFFERENT_LETTERS.length; letter++) {
+            bench.setVariable(letter, ALL_DIFFERENT_LETTERS[letter]);
+        }
+        DUE.is("treeCount(2)", bench.treeCount(2), 300);
+        DUE.is("distinctValues(2) of 300 trees with as many values", bench.distinctValues(2), 300);
+        DUE.is("distinctValues(1) of more trees", bench.distinctValues(1), -3);
+        Set<Long> values = new HashSet<>();
+        for (int rank = 0; rank < 300; rank++) {
+            values.add(bench.value(2, rank));
+        }
+        DUE.is("different answers of value(2, ..)", values.size(), 300);
     }
 }
