@@ -480,25 +480,35 @@ public final class BoundaryTest {
 
     /** "The first failure that the evaluation meets is the result.": left before right, and both before their root. */
     private static void firstFailure() {
-        DisambiguationBench bench = Due.loaded("op+1l;op/1l;op*1l;expra/z+b*b+c/y;");
+        String text = "op+1l;op/1l;op*1l;expra/z+b*b+c/y;";
+        int leftFirst = rankOf(text, 1, 0, 3, 2, 4);
+        int leftLast = rankOf(text, 3, 1, 0, 2, 4);
+        int inFactor = rankOf(text, 1, 0, 2, 3, 4);
+        int inDividend = rankOf(text, 1, 0, 4, 2, 3);
+        int inDivisor = rankOf(text, 0, 3, 1, 2, 4);
+        DisambiguationBench bench = Due.loaded(text);
         bench.setVariable(1, 1000000000);
         bench.setVariable(24, 0);
-        DUE.is("a/z+(b*b+c/y)", bench.value(0, tree(bench, 1, 0, 3, 2, 4)), OVERFLOW);
-        DUE.is("(a/z+b*b)+c/y", bench.value(0, tree(bench, 3, 1, 0, 2, 4)), OVERFLOW);
-        DUE.is("a/z+b*(b+c/y)", bench.value(0, tree(bench, 1, 0, 2, 3, 4)), DIVISION_BY_ZERO);
-        DUE.is("a/z+(b*(b+c))/y, b*(b+c) before /y", bench.value(0, tree(bench, 1, 0, 4, 2, 3)), OVERFLOW);
+        DUE.is("a/z+(b*b+c/0)", bench.value(0, leftFirst), OVERFLOW);
+        DUE.is("(a/z+b*b)+c/0", bench.value(0, leftLast), OVERFLOW);
+        DUE.is("a/z+b*(b+c/0)", bench.value(0, inFactor), DIVISION_BY_ZERO);
+        DUE.is("a/z+b*(b+c)/0", bench.value(0, inDividend), OVERFLOW);
         bench.setVariable(25, 0);
-        DUE.is("a/0+(b*b+c/y)", bench.value(0, tree(bench, 1, 0, 3, 2, 4)), DIVISION_BY_ZERO);
-        DUE.is("a/(0+b*b+c/y), the overflow comes first", bench.value(0, tree(bench, 0, 3, 1, 2, 4)), OVERFLOW);
+        DUE.is("a/0+(b*b+c/0)", bench.value(0, leftFirst), DIVISION_BY_ZERO);
+        DUE.is("a/(0+b*b+c/0)", bench.value(0, inDivisor), OVERFLOW);
         bench.setVariable(1, 1);
-        DUE.is("a/(0+b*b+c/y), nothing overflows", bench.value(0, tree(bench, 0, 3, 1, 2, 4)), DIVISION_BY_ZERO);
+        DUE.is("a/(0+1*1+c/0)", bench.value(0, inDivisor), DIVISION_BY_ZERO);
         bench.setVariable(24, -1);
-        DUE.is("a/(0+b*b+c/-1), no failure", bench.value(0, tree(bench, 0, 3, 1, 2, 4)), 0);
+        DUE.is("a/(0+1*1+c/-1), no failure", bench.value(0, inDivisor), 0);
+        bench.setVariable(2, 1);
+        DUE.is("a/(0+1*1+1/-1), the root fails", bench.value(0, inDivisor), DIVISION_BY_ZERO);
     }
 
-    /** The rank of the tree whose operators are these in preorder. */
-    private static int tree(DisambiguationBench bench, int... preorder) {
-        for (int rank = 0; rank < bench.treeCount(0); rank++) {
+    /** The rank of the tree whose operators are these in preorder, looked for in an object of its own. */
+    private static int rankOf(String text, int... preorder) {
+        DisambiguationBench bench = Due.loaded(text);
+        int trees = bench.treeCount(0);
+        for (int rank = 0; rank < trees; rank++) {
             boolean found = true;
             for (int i = 0; i < preorder.length && found; i++) {
                 found = bench.operatorAt(0, rank, i) == preorder[i];
