@@ -22,6 +22,7 @@ public final class CountsTest {
         derivationsUnderFilters();
         derivationsRange();
         orderMatters();
+        orderMattersToTheCountAlone();
         orderMattersToTheWholePipeline();
         orderMattersRange();
         DUE.finish();
@@ -277,6 +278,18 @@ public final class CountsTest {
         bench.addPriorityFilter(0);
         bench.addAssociativityFilter(1);
         DUE.is("orderMatters(0) of priority and associativity", bench.orderMatters(0), 0);
+    }
+
+    /** "1 if treeCount of the whole pipeline would be another one": other trees that are as many do not count. */
+    private static void orderMattersToTheCountAlone() {
+        DisambiguationBench bench = Due.loaded(SUM_OF_PRODUCT);
+        bench.addPreferFilter(0, PLUS);
+        bench.addPreferFilter(1, TIMES);
+        treeOfFilters("prefer +, then *", bench, 2, 0);
+        DUE.is("orderMatters(0) of prefer + and prefer *", bench.orderMatters(0), 0);
+        bench.swapFilters(0);
+        treeOfFilters("prefer *, then +", bench, 2, 1);
+        DUE.is("orderMatters(0) of prefer * and prefer +", bench.orderMatters(0), 0);
     }
 
     private static void orderMattersToTheWholePipeline() {

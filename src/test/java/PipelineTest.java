@@ -18,6 +18,7 @@ public final class PipelineTest {
         undoOfFour();
         undoRestoresWhatFiltersDo();
         refusedEditsAreNoEdits();
+        changesOfTheTextAreNoEdits();
         DUE.finish();
     }
 
@@ -259,5 +260,23 @@ public final class PipelineTest {
         DUE.is("historySize() after refused edits", bench.historySize(), 1);
         DUE.is("undo()", bench.undo(), 0);
         DUE.is("filterCount()", bench.filterCount(), 0);
+    }
+
+    /** "Adding, removing and swapping filters, and setting a variable, are edits." */
+    private static void changesOfTheTextAreNoEdits() {
+        DisambiguationBench bench = new DisambiguationBench();
+        Due.append(bench, "op+1l;");
+        DUE.is("historySize() after append()", bench.historySize(), 0);
+        bench.addPriorityFilter(0);
+        Due.append(bench, "x");
+        DUE.is("historySize() after an add and append()", bench.historySize(), 1);
+        DUE.is("undo() of the add", bench.undo(), 0);
+        DUE.is("filterCount() after undo()", bench.filterCount(), 0);
+        DUE.is("syntaxError() of the text, which stays", bench.syntaxError(), 6);
+        bench.addPriorityFilter(0);
+        DUE.is("clearText()", bench.clearText(), 7);
+        DUE.is("historySize() after clearText()", bench.historySize(), 1);
+        DUE.is("undo() of the add again", bench.undo(), 0);
+        DUE.is("clearText() of the text, which stays empty", bench.clearText(), 0);
     }
 }
